@@ -30,7 +30,6 @@ public final class ShadowSpans {
     private int pageLength;
     private int reportsEver;
     private int wentEver;
-    private boolean settled;
 
     public ShadowSpans() {
     }
@@ -70,7 +69,7 @@ public final class ShadowSpans {
         roster.add(reader);
         reportsEver++;
         pageLength = 0;
-        settled = false;
+        settle();
         return roster.size - 1;
     }
 
@@ -80,7 +79,7 @@ public final class ShadowSpans {
         }
         roster.remove(station);
         wentEver++;
-        settled = false;
+        settle();
         return roster.size;
     }
 
@@ -97,7 +96,7 @@ public final class ShadowSpans {
         }
         int old = roster.errors[station];
         roster.errors[station] = v;
-        settled = false;
+        settle();
         return old;
     }
 
@@ -107,7 +106,7 @@ public final class ShadowSpans {
         }
         int old = roster.pace;
         roster.pace = v;
-        settled = false;
+        settle();
         return old;
     }
 
@@ -142,7 +141,6 @@ public final class ShadowSpans {
     }
 
     public int wrong() {
-        settle();
         return verdict.culprits;
     }
 
@@ -317,18 +315,13 @@ public final class ShadowSpans {
     }
 
     private boolean allFit() {
-        settle();
         return verdict.culprits == 0;
     }
 
-    /** Many calls ask between two changes; what they share is worked out once. */
+    /** Many calls ask between two changes; what they share is worked out at the change. */
     private void settle() {
-        if (settled) {
-            return;
-        }
         verdict.judge(roster);
         hull.wrap(roster);
-        settled = true;
     }
 
     private static boolean isHeight(int h) {
@@ -515,7 +508,7 @@ public final class ShadowSpans {
 
         /** How far out a chord's end on this side may lie. */
         int outer(int number, int side) {
-            if (!has(number)) {
+            if (number < 0 || number >= MOST_STATIONS) {
                 return 0;
             }
             return side == LEFT ? pace * (gones[number] - errors[number])
@@ -524,7 +517,7 @@ public final class ShadowSpans {
 
         /** How far in a chord's end on this side may lie. */
         int inner(int number, int side) {
-            if (!has(number)) {
+            if (number < 0 || number >= MOST_STATIONS) {
                 return 0;
             }
             return side == LEFT ? pace * (gones[number] + errors[number])

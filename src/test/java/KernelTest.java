@@ -9,6 +9,8 @@ public final class KernelTest {
         square();
         cornersOnEdges();
         slanted();
+        sixteenCorners();
+        byError();
         extremes();
         refusals();
         holds();
@@ -81,6 +83,33 @@ public final class KernelTest {
         // along the edge from (3,0) to (9,7): (5,7) is the farthest, 28 * 28 / 85 = 9.2..; along that from
         // (5,7) to (0,0): (9,7), 28 * 28 / 74 = 10.5..; along the others 7 * 7
         kernelIs("rounded", y, 4, 49, 81 + 49, 9);
+    }
+
+    private static void sixteenCorners() {
+        ShadowSpans x = Check.with("7:-51,51", "-7:-51,51", "5:-75,75", "-5:-75,75", "3:-91,91", "-3:-91,91",
+            "1:-99,99", "-1:-99,99");
+        x.speed(1);
+        cornersAre("sixteen", x, -99, -1, -91, -3, -75, -5, -51, -7, 51, -7, 75, -5, 91, -3, 99, -1,
+            99, 1, 91, 3, 75, 5, 51, 7, -51, 7, -75, 5, -91, 3, -99, 1);
+        // slices of 2 by 126, 166, 190, 198 and the same below
+        kernelIs("sixteen", x, 16, 4 * (2 * (126 + 166 + 190) + 198), 198 * 198 + 4, 14 * 14);
+        x.drop(7);
+        cornersAre("fourteen", x, -99, 1, -91, -3, -75, -5, -51, -7, 51, -7, 75, -5, 91, -3,
+            99, 1, 91, 3, 75, 5, 51, 7, -51, 7, -75, 5, -91, 3);
+    }
+
+    private static void byError() {
+        ShadowSpans x = Check.with("0:0,10", "10:0,10");
+        kernelIs("by no error", x, 4, 2000, 10100, 100);
+        x.error(1, 2);
+        cornersAre("by an error", x, 0, 0, 100, 0, 80, 10, 20, 10);
+        kernelIs("by an error", x, 4, 1600, 10000, 100);
+        x.error(0, 4);
+        cornersAre("by two errors", x, 20, 10, 40, 0, 60, 0, 80, 10);
+        holdsAre(x, 5, 30, 1, 70, 1);
+        Check.type(x, "-10:4,6");
+        x.report();
+        cornersAre("by one more", x, 20, 10, 40, -10, 60, -10, 80, 10);
     }
 
     private static void extremes() {

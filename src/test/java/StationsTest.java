@@ -8,6 +8,7 @@ public final class StationsTest {
         fits();
         fitsByError();
         wrong();
+        allClash();
         check.end("StationsTest");
     }
 
@@ -83,7 +84,10 @@ public final class StationsTest {
     }
 
     private static void fitsByError() {
-        ShadowSpans x = Check.with("0:0,100", "10:11,100", "20:20,100");
+        ShadowSpans x = Check.with("0:0,100", "10:11,100");
+        check.due("fits() ahead of the third", x.fits(), 1);
+        Check.type(x, "20:20,100");
+        x.report();
         check.due("fits()", x.fits(), 0);
         check.due("error(1, 1)", x.error(1, 1), 0);
         check.due("fits() on the bound", x.fits(), 1);
@@ -123,5 +127,10 @@ public final class StationsTest {
         check.due("wrong() of two misses between", x.wrong(), 1);
         x.drop(0);
         check.due("wrong() when it is gone", x.wrong(), 0);
+    }
+
+    /** Each three clash, so that no more than two may stay. */
+    private static void allClash() {
+        judged(63, "1:49,99", "2:46,99", "3:41,99", "4:34,99", "5:25,99", "6:14,99", "7:1,99", "8:-14,99");
     }
 }
