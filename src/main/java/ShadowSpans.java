@@ -572,6 +572,9 @@ public final class ShadowSpans {
         }
 
         private int fewest(int size) {
+            if (clashCount == 0) {
+                return 0;
+            }
             int every = (1 << size) - 1;
             int best = every;
             for (int without = 0; without < every; without++) {
