@@ -1,6 +1,9 @@
 import java.util.Random;
 
-/** Any arguments in any state: no call throws, and a call that only asks changes nothing. */
+/**
+ * Any arguments in any state: no call throws, and a call that only asks, or is refused, changes nothing
+ * (but behind the 512th call, where the document leaves all answers free, only that none throws).
+ */
 public final class AnyCallTest {
     private static final int[] HARD = {Integer.MIN_VALUE, Integer.MIN_VALUE + 1, -1000000, -501, -202, -201, -200, -199,
         -2, -1, 0, 1, 2, 3, 4, 5, 6, 7, 8, 9, 15, 16, 17, 20, 21, 24, 31, 32, 45, 48, 57, 58, 120, 126, 127, 199, 200,
@@ -11,7 +14,7 @@ public final class AnyCallTest {
     private static final Check check = new Check();
 
     public static void main(String[] args) {
-        for (int seed = 0; seed < 300; seed++) {
+        for (int seed = 0; seed < 600; seed++) {
             run(new Random(seed), seed);
         }
         check.end("AnyCallTest");
@@ -19,18 +22,20 @@ public final class AnyCallTest {
 
     private static void run(Random random, int seed) {
         ShadowSpans x = new ShadowSpans();
-        for (int call = 0; call < 512; call++) {
+        int calls = 0;
+        while (calls < 700) {
             if (random.nextInt(20) == 0) {
-                x.blank();
-                Check.type(x, REPORTS[random.nextInt(REPORTS.length)]);
-                x.report();
+                String report = REPORTS[random.nextInt(REPORTS.length)];
+                Check.report(x, report);
+                calls += report.length() + 2;
             } else {
-                one(random, x, seed);
+                one(random, x, seed, calls + 3 <= 512);
+                calls += 3;
             }
         }
     }
 
-    private static void one(Random random, ShadowSpans x, int seed) {
+    private static void one(Random random, ShadowSpans x, int seed, boolean promised) {
         int kind = random.nextInt(18);
         int a = HARD[random.nextInt(HARD.length)];
         int b = HARD[random.nextInt(HARD.length)];
@@ -41,8 +46,9 @@ public final class AnyCallTest {
             long answer = call(x, kind, a, b, c);
             boolean asks = kind == 2 || kind >= 7;
             boolean refused = answer < ShadowSpans.NONE && answer >= ShadowSpans.OUT && kind != 17;
-            if (asks || refused) {
-                check.due(call + " changes nothing", x.digest(), before);
+            long behind = x.digest();
+            if (promised && (asks || refused)) {
+                check.due(call + " changes nothing", behind, before);
             }
         } catch (RuntimeException e) {
             check.due(call + " throws " + e, false);
