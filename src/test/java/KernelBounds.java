@@ -187,6 +187,10 @@ final class KernelBounds {
         check.due("5 by 3 aslant by 4", with(1, "0:0,5", "3:4,9").kernel(3), 9);
         check.due("6 by 3 aslant by 4", with(1, "0:0,6", "3:4,10").kernel(3), 9);
         check.due("4 by 3 aslant by -4", with(1, "0:0,4", "3:-4,0").kernel(3), 5);
+        // one edge alone gives the least, whichever corner it begins at: 144/25 along it, 144/18 along the other, 9
+        for (String[] turned : Turned.all("0:4,7", "3:0,4")) {
+            check.due(String.join(" ", turned), with(1, turned).kernel(3), 5);
+        }
         // as high as wide, and a step to each side
         check.due("10 by 9", with(1, "0:0,10", "9:0,10").kernel(3), 81);
         check.due("10 by 10", with(1, "0:0,10", "10:0,10").kernel(3), 100);
@@ -224,6 +228,18 @@ final class KernelBounds {
         holds(y, 5, -5, 1, 55, 3);
         holds(y, 6, -6, 1, 20, 1);
         holds(y, 7, -4, 1, 50, 3);
+        // whichever came first: the one above, the one below
+        ShadowSpans above = with(1, "6:4,14", "0:-2,5");
+        holds(above, 1, -1, 1, 13, 2);
+        holds(above, 5, 3, 1, 25, 2);
+        ShadowSpans below = with(1, "0:-2,5", "6:4,14");
+        holds(below, 1, -1, 1, 13, 2);
+        holds(below, 5, 3, 1, 25, 2);
+        // the left by two chords, the right by two others
+        ShadowSpans sides = with(1, "0:0,9", "3:-7,12~3", "5:0,14");
+        holds(sides, 1, -4, 3, 10, 1);
+        holds(sides, 2, -8, 3, 11, 1);
+        holds(sides, 4, -2, 1, 13, 1);
         // its own innermost ends lie within
         ShadowSpans z = with(1, "0:0,100", "10:8,92~8", "20:0,100");
         holds(z, 9, 0, 1, 100, 1);

@@ -6,6 +6,7 @@ final class ReachBounds {
     private static final int OUT = ShadowSpans.OUT;
     private static final int[] FAR = {Integer.MIN_VALUE, Integer.MAX_VALUE};
     private static final int[] SPEEDS = {1, 7, 10, 20};
+    private static final String[] SIDES = {"0:-3,5", "3:-4,12~1", "5:-5,13"};
     private static final String REACH = "REACH at h (-200 to 200; if STATIONS FIT, and one at least did not MISS): from the"
         + " least x on, that a point at h of any BODY that FITS all STATIONS has, to the greatest, as fractions;";
     private static final String NOWHERE = "OUT (on both sides), if no such BODY has a point at h.";
@@ -130,6 +131,10 @@ final class ReachBounds {
         reach(four, 16, -27, 5, 527, 5);
         reach(four, 19, -51, 10, 1051, 10);
         reach(four, 11, -22, 5, 522, 5);
+        // the left by the first and the third, the right by the second and the third
+        reach(SIDES, 6, -27, 5, 14, 1);
+        reach(SIDES, 7, -29, 5, 15, 1);
+        reach(SIDES, 8, -31, 5, 16, 1);
     }
 
     private void ownBound() {
@@ -198,6 +203,10 @@ final class ReachBounds {
         reach(last, 200, 200, 1, 200, 1);
         reach(of("-1:0,200", "9:10,200"), 199, 200, 1, 200, 1);
         reach(of("-1:0,200", "9:10,200"), 200, OUT);
+        // the least that the sides can cross by
+        reach(of("0:0,10", "1:1,10"), 9, 9, 1, 10, 1);
+        reach(of("0:0,10", "1:1,10"), 10, 10, 1, 10, 1);
+        reach(of("0:0,10", "1:1,10"), 11, OUT);
         // ERROR puts it off
         reach(of("0:0,100", "10:20,80~1"), 26, 247, 5, 253, 5);
     }
@@ -251,6 +260,10 @@ final class ReachBounds {
             // 1 all along, by sevenths on each side
             lasts(of("-1:0,1", "6:5,6"), h, 0, 1);
         }
+        // both sides by fractions of unlike kinds: 11 1/3, 13 2/3, 15
+        lasts(of("0:0,9", "3:-7,12~3", "5:0,14"), 1, 0, 11);
+        lasts(of("0:0,9", "3:-7,12~3", "5:0,14"), 2, 0, 13);
+        lasts(of("0:0,9", "3:-7,12~3", "5:0,14"), 4, 0, 15);
         lasts(of("0:-20,21~20"), 0, 0, 1);
         lasts(of("0:-20,22~20"), 0, 0, 2);
         lasts(of("0:-20,22~20"), 1, 0, 0);
@@ -269,6 +282,10 @@ final class ReachBounds {
         for (int[] pair : due) {
             lasts(x, pair[0], 1, pair[1]);
         }
+        // both sides by fractions of unlike kinds: 19 2/5, 20 4/5, 22 1/5
+        lasts(SIDES, 6, 1, 20);
+        lasts(SIDES, 7, 1, 21);
+        lasts(SIDES, 8, 1, 23);
         lasts(of("0:0,10"), 0, 1, 10);
         lasts(of("0:0,10~1"), 0, 1, 12);
         lasts(of("0:0,10~1"), 1, 1, NONE);
